@@ -567,7 +567,7 @@ public final class BlackGlass {
             }
         }
 
-        private static boolean canStand(char letter, int number, int before) {
+        private static boolean canStand(int letter, int number, int before) {
             switch (letter) {
                 case 'P': return isPlace(number);
                 case 'Q': return isPlace(number) && number != before;

@@ -86,6 +86,8 @@ public final class PromisesTest {
     dates();
     learning();
     counting();
+    numbersZero();
+    fullObject();
     System.out.println(wrong == 0 ? "all promises hold" : wrong + " answers are not as due");
     if (wrong != 0) System.exit(1);
   }
@@ -1205,5 +1207,109 @@ public final class PromisesTest {
     for (int w : WILD) due(OUTSIDE, x.count(w));
     x.undo(0);
     due(1, x.count(5));
+  }
+
+  /** Where PLACE, FLOW or BLADE 0 is the one that counts. */
+  private static void numbersZero() {
+    begin(15);
+    BlackGlass n = told("flow 0 0 0 100 100 100 0;flow 3 0 0 105 100 100 0;far 31");
+    n.blade(0, numbers(103, 100, 100), 1, 1, 0);
+    due(NONE, n.named(0));
+    tell(n, "far 30");
+    due(3, n.named(0));
+    begin(22);
+    BlackGlass x = told(plainFlow(1, 1, 0), "land 0 1 5;land 0 2 6;place 0 10 20 1");
+    plain(x, 0, 1, 0);
+    plain(x, 2, 1, 0);
+    due(1, x.legs(0, 1, 10, false, 0));
+    due(5, x.legs(0, 1, 20, false, 1));
+    due(NONE, x.legs(0, 1, 9, false, 0));
+    due(NONE, x.legs(0, 1, 21, false, 1));
+    due(2, x.legs(1, 1, 15, false, 0));
+    due(11, x.legs(1, 1, 15, false, 1));
+    tell(x, "land 0 1 0");
+    due(NONE, x.legs(0, 1, 15, false, 1));
+    due(NONE, x.legs(0, 1, 15, false, 0));
+    due(NONE, x.legs(1, 1, 15, false, 0));
+    begin(18);
+    BlackGlass y = told("place 0 2000 5000 10");
+    plain(y, 0, 1, 1);
+    plain(y, 0, 1, 2);
+    // 4663 to 4755, as above.
+    y.rim(1, 230, 0);
+    spans(y, 0, 0, 5000, NONE, NONE, 4663, 5000);
+    y.strike(0, 1);
+    spans(y, 0, 4663, 5000, NONE, NONE, 4663, 5000);
+    // Without a RIM one may be of now, however cold the ground is.
+    BlackGlass z = told("place 0 0 9999 1");
+    plain(z, 0, 1, 1);
+    due(9999, z.span(0, 1));
+    z.rim(0, 3, 1);
+    spans(z, 0, 9983, 9995, 9995, 9999, 9995, 9999);
+    begin(25);
+    BlackGlass s = told(plainFlow(0, 1, 0), "boat 1 0 1;place 0 5 50 10");
+    plain(s, 0, 1, 0);
+    due(50, s.sea());
+    begin(29);
+    BlackGlass l = told(plainFlow(0, 0, 0), "boat 0 1 990");
+    l.counts(1, 0, 9, 10);
+    due(299, l.law(0, 0));
+    due(0, l.law(0, 1));
+    begin(31);
+    z.rim(0, 0, 0);
+    plain(z, 0, 1, 1);
+    z.dated(0, 0);
+    z.dated(1, 9899);
+    z.rim(1, 100, 0);
+    due(98, z.learnt(0, 0));
+    due(102, z.learnt(0, 1));
+  }
+
+  /** All BLADES, FLOWS and PLACES at once, in one row of STRIKES. */
+  private static void fullObject() {
+    begin(21);
+    BlackGlass x = new BlackGlass();
+    for (int f = 0; f < 9; f++) tell(x, plainFlow(f, f, 1000 + f));
+    for (int p = 0; p < 9; p++) tell(x, "boat " + p + " " + (p + 1) + " 10");
+    for (int b = 0; b < 12; b++) plain(x, Math.min(b, 9), 100 - b, b);
+    for (int b = 1; b < 12; b++) due(1, x.strike(b, b - 1));
+    due(NOT, x.strike(0, 11));
+    due(11, x.count(5));
+    due(9, x.count(0));
+    // All may have come from each one ahead of them.
+    for (int b = 0; b < 12; b++) due((1 << b) - 1, x.from(b));
+    due(12, x.chain(-1));
+    due(11, x.chain(-2));
+    for (int i = 0; i < 12; i++) due(i, x.chain(i));
+    due(NONE, x.chain(12));
+    // One STRUCK late in the first row makes all of them late, and the last one early all early.
+    due(1000, x.span(11, 0));
+    tell(x, "place 0 5000 5100 100");
+    x.rim(0, 700, 0);
+    due(5085, x.span(11, 0));
+    due(5085, x.span(11, 4));
+    due(5100, x.span(0, 1));
+    tell(x, "place 9 0 5090 100");
+    due(5090, x.span(0, 1));
+    due(5085, x.span(0, 0));
+    due(NONE, x.span(0, 2));
+    due(1, x.heirloom(11));
+    begin(24);
+    due(0b111000000000, x.boats());
+    due(5090, x.sea());
+    due(0, x.next());
+    begin(23);
+    due(5085, x.reach(11, 8, true, 0));
+    due(1, x.reach(11, 8, true, 1));
+    due(9, x.reach(11, 0, true, 1));
+    begin(31);
+    for (int b = 0; b < 12; b++) due(1, x.dated(b, 5090));
+    due(100, x.learnt(0, 0));
+    due(100, x.learnt(0, 1));
+    due(UNKNOWN, x.of(12, 0));
+    for (int f = 0; f < 9; f++) for (int p = 0; p < 10; p++) due(1, x.counts(p, f, 9, 10));
+    due(0, x.miss(0, 2, 9));
+    due(0, x.miss(8, 2, 8));
+    due(208, x.law(8, 0));
   }
 }
