@@ -7,7 +7,9 @@ import java.nio.file.Path;
 import java.util.ArrayList;
 import java.util.Arrays;
 import java.util.List;
+import java.util.Map;
 import java.util.Set;
+import java.util.TreeMap;
 import java.util.TreeSet;
 import java.util.regex.Matcher;
 import java.util.regex.Pattern;
@@ -25,6 +27,7 @@ public final class LanguageTest {
   private static final int MOST_PARAMETERS = 7;
   private static final int MOST_CLASSES = 12;
   private static final int MOST_FIELDS = 20;
+  private static final int MOST_DEPTH = 8;
   private static int wrong = 0;
 
   private static void check(boolean holds, String rule) {
@@ -91,6 +94,34 @@ public final class LanguageTest {
     Matcher word = Pattern.compile("\\b(throw|throws|try|catch|synchronized|assert|import|package|float|double|var|Object|toString|hashCode)\\b|->|::").matcher(bare);
     while (word.find()) check(false, "3, 4, 6: " + word.group());
     checkMethods(source.split("\n"));
+    checkDepth(bare.split("\n"));
+  }
+
+  /** Rules 8 and 11: which methods call which, by their names; no recursion, and no row of calls deeper than eight. */
+  private static void checkDepth(String[] lines) {
+    Map<String, Set<String>> calls = new TreeMap<>();
+    Pattern head = Pattern.compile("^( {4}| {8})(?! )[A-Za-z][A-Za-z\\[\\] ]* ([a-z][A-Za-z]*)\\([^()]*\\) \\{$");
+    for (int i = 0; i < lines.length; i++) {
+      Matcher m = head.matcher(lines[i]);
+      if (!m.matches()) continue;
+      Set<String> called = calls.computeIfAbsent(m.group(2), name -> new TreeSet<>());
+      for (int j = i + 1; j < lines.length && !lines[j].equals(m.group(1) + "}"); j++) {
+        Matcher call = Pattern.compile("(?<!Math\\.|Integer\\.)\\b([a-z][A-Za-z]*)\\(").matcher(lines[j]);
+        while (call.find()) called.add(call.group(1));
+      }
+    }
+    check(calls.size() > 2 * FACE.size(), "8, 11: too few methods were seen: " + calls.size());
+    for (String name : calls.keySet()) {
+      int depth = depthOf(name, calls, 0);
+      check(depth <= MOST_DEPTH, "8, 11: " + name + " goes " + depth + " deep");
+    }
+  }
+
+  private static int depthOf(String name, Map<String, Set<String>> calls, int above) {
+    if (above > 2 * MOST_DEPTH || !calls.containsKey(name)) return above;
+    int depth = above + 1;
+    for (String called : calls.get(name)) depth = Math.max(depth, depthOf(called, calls, above + 1));
+    return depth;
   }
 
   /** Methods by their indent: they begin with a line that opens a brace and end with one of the same indent. */

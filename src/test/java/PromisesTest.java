@@ -1,55 +1,7 @@
 /** For each promise of the document: ordinary inputs, the edges that it names, wrong inputs. */
-public final class PromisesTest {
-  private static final int NONE = -1, UNKNOWN = -2, OUTSIDE = -3, NOT = -4, FULL = -5;
-  private static final int[] WILD = {Integer.MIN_VALUE, -1000, -1, 1000000, Integer.MAX_VALUE};
-  private static int wrong = 0;
-  private static int promise = 0;
-
-  private static void due(long want, long got) {
-    if (got != want) {
-      wrong++;
-      StackTraceElement at = Thread.currentThread().getStackTrace()[2];
-      System.out.println("promise " + promise + ", line " + at.getLineNumber() + ": answered " + got + ", due is " + want);
-    }
-  }
-
+public final class PromisesTest extends Sheet {
   private static void begin(int number) {
-    promise = number;
-  }
-
-  private static void write(BlackGlass x, String text) {
-    for (int at = 0; at < text.length(); at += 8) {
-      int n = Math.min(8, text.length() - at);
-      long bytes = 0;
-      for (int i = 0; i < n; i++) bytes |= (long) (text.charAt(at + i) & 255) << 8 * i;
-      x.write(bytes, n);
-    }
-  }
-
-  private static void tell(BlackGlass x, String text) {
-    x.erase();
-    write(x, text);
-    if (x.land() < 1) {
-      wrong++;
-      System.out.println("promise " + promise + ": the text has a fault: " + text);
-    }
-  }
-
-  private static BlackGlass told(String... texts) {
-    BlackGlass x = new BlackGlass();
-    for (String text : texts) tell(x, text);
-    return x;
-  }
-
-  private static int numbers(int a, int b, int c) { return a | b << 10 | c << 20; }
-
-  /** One FLOW of stuffs 100 each and spread 0 at PLACE 0, OPEN from a YEAR on. */
-  private static String plainFlow(int flow, int place, int open) {
-    return "flow " + flow + " " + place + " " + open + " 100 100 100 0";
-  }
-
-  private static int plain(BlackGlass x, int place, int size, int layer) {
-    return x.blade(place, numbers(100, 100, 100), 1, size, layer);
+    about("promise " + number);
   }
 
   public static void main(String[] args) {
@@ -88,8 +40,7 @@ public final class PromisesTest {
     counting();
     numbersZero();
     fullObject();
-    System.out.println(wrong == 0 ? "all promises hold" : wrong + " answers are not as due");
-    if (wrong != 0) System.exit(1);
+    finish();
   }
 
   private static void newObject() {
@@ -165,16 +116,6 @@ public final class PromisesTest {
     due(1, x.land());
     due(0, x.erase());
     due(1, x.count(4));
-  }
-
-  private static void fault(int want, String text) {
-    BlackGlass x = new BlackGlass();
-    write(x, text);
-    int got = x.fault();
-    if (got != want || x.count(1) != text.length() || x.fault() != want) {
-      wrong++;
-      System.out.println("promise 4: the fault of '" + text + "' is " + got + ", due is " + want);
-    }
   }
 
   private static void faults() {
@@ -590,10 +531,6 @@ public final class PromisesTest {
     due(1, x.strike(2, 1));
     due(UNKNOWN, x.undo(3));
     for (int w : WILD) due(UNKNOWN, x.undo(w));
-  }
-
-  private static void spans(BlackGlass x, int blade, int... want) {
-    for (int w = 0; w < 6; w++) due(want[w], x.span(blade, w));
   }
 
   private static void spansByBounds() {
