@@ -20,6 +20,8 @@ public final class NaiveTest {
   // How freely YEARS and numbers are drawn, so that runs with a way and without one are both common.
   private final boolean tight;
   private final boolean crowded;
+  // FLOWS that are unlike each other, so that BLADES are NAMED.
+  private final boolean apart;
   private static int wrong = 0;
   // How often each call answered a number of its own (0 or more): a run in which none does tests little.
   private static final TreeMap<String, Integer> told = new TreeMap<>();
@@ -28,6 +30,7 @@ public final class NaiveTest {
     random = new Random(seed);
     tight = seed % 3 == 0;
     crowded = seed % 2 == 0;
+    apart = seed % 7 < 2;
   }
 
   public static void main(String[] args) {
@@ -124,7 +127,7 @@ public final class NaiveTest {
       case 2:
       case 3:
       case 4: {
-        int base = pick(100, 140);
+        int base = apart ? pick(0, 999) : pick(100, 140);
         return join("flow", near(0, 8), place, tight ? pick(1800, 2100) : chance(70) ? pick(0, 3000) : year(), base, pick(100, 120), pick(100, 120), chance(90) ? pick(0, 12) : near(0, 99));
       }
       case 5:
