@@ -64,6 +64,9 @@ public final class ReadmeTest extends Sheet {
 
   /** Each call that the document promises stands in the table as the document writes it, and no other one. */
   private static void calls(String readme) throws IOException {
+    about("31 calls are told");
+    due(31, Pattern.compile("\n\\| `int ").matcher(readme).results().count());
+    if (!Files.exists(DOCUMENT)) return;
     Matcher promised = Pattern.compile("\n`(int [a-z]+\\([^`]*\\))`: ").matcher(Files.readString(DOCUMENT));
     int many = 0;
     while (promised.find()) {
@@ -71,9 +74,8 @@ public final class ReadmeTest extends Sheet {
       due(1, readme.contains("\n| `" + promised.group(1) + "` | ") ? 1 : 0);
       many++;
     }
-    about("31 calls are told");
+    about("31 calls are promised");
     due(31, many);
-    due(31, Pattern.compile("\n\\| `int ").matcher(readme).results().count());
   }
 
   private static void constants(String readme) {
